@@ -781,7 +781,7 @@ public final class RegularSequences {
         }
 
         private void putPart(Representation part, int from, int factor) {
-            for (int i = 0; i < part.size && from + i < size; i++) {
+            for (int i = 0; i < part.size; i++) {
                 rowVector[from + i] = part.rowVector[i];
                 columnVector[from + i] = part.columnVector[i] * factor % MODULUS;
             }

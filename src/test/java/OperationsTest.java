@@ -255,6 +255,8 @@ public final class OperationsTest {
         Shape large = Shape.scattered(4, 6, 21, 10006);
         dueUnary((x, dest, a) -> x.scale(dest, a, 7777), large, large.scaled(7777));
         dueUnary((x, dest, a) -> x.scale(dest, a, 7), new Shape(2, 0), new Shape(2, 0));
+        Shape largest = Shape.scattered(2, 8, 22, 10006);
+        dueUnary((x, dest, a) -> x.scale(dest, a, 9), largest, largest.scaled(9));
         RegularSequences x = new RegularSequences();
         TWO.putInto(x, 0);
         for (int bad : Workbenches.NO_RESIDUES) {

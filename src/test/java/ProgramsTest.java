@@ -143,6 +143,11 @@ public final class ProgramsTest {
         Checks.due(x.dimension(0), 8);
         Checks.due(Workbenches.runText(x, "0=m0;0=k1"), 2);
         Checks.due(x.dimension(0), 1);
+        Checks.due("a result of dimension 0 is no failure", Workbenches.runText(x, "0=0-0;1=m0;2=1*0;3=r2"), 4);
+        Checks.due(x.dimension(1), 0);
+        Checks.due(x.dimension(2), 0);
+        Checks.due(x.dimension(3), 0);
+        Checks.due(x.errorDepth(), 0);
     }
 
     private static void promise39MostStatements() {
