@@ -415,7 +415,8 @@ public final class BuildingEdgesTest {
 
     @Says(promise = 7, value = {"- `v`: the new entry, 0 to 10006", "Returns the previous entry"})
     static void setEntryToLowestAndHighestValue() {
-        setLowestAndHighestValue((x, slot, i, v) -> x.setEntry(slot, 1, i, i, v), (x, slot, i) -> x.entry(slot, 1, i, i));
+        setLowestAndHighestValue((x, slot, i, v) -> x.setEntry(slot, 1, i, i, v),
+                (x, slot, i) -> x.entry(slot, 1, i, i));
     }
 
     @Says(promise = 7, value = "BAD_ARGUMENT if digit, i or j is not valid or v is out of range.")

@@ -168,6 +168,7 @@ public final class OperationEdgesTest {
             }
             Refused.due("two of three " + bad, x -> operation.apply(x, bad, bad, 0), NO_SLOT);
             Refused.due("all three " + bad, x -> operation.apply(x, bad, bad, bad), NO_SLOT);
+            Refused.dueIn(() -> Edges.sized(2, 8), "dimension 8 twice", x -> operation.apply(x, bad, 0, 0), NO_SLOT);
         }
     }
 

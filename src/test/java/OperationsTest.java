@@ -45,11 +45,9 @@ public final class OperationsTest {
     /** The result in each slot, also over the operand; the other slots stay as they are. */
     private static void dueUnary(Unary operation, Shape operand, Shape want) {
         for (int dest = 0; dest < 4; dest++) {
-            RegularSequences x = Workbenches.withBase(operand.base);
-            operand.putInto(x, 1);
-            Shape.numbers(operand.base).putInto(x, 3);
-            Checks.due(operation.apply(x, dest, 1), want.size);
-            want.dueIn(x, dest);
+            want.dueIn(afterUnary(operation, dest, operand, want), dest);
+            // The rest in a second object, for one is good for 512 calls only.
+            RegularSequences x = afterUnary(operation, dest, operand, want);
             if (dest != 1) {
                 operand.dueIn(x, 1);
             }
@@ -62,6 +60,14 @@ public final class OperationsTest {
                 }
             }
         }
+    }
+
+    private static RegularSequences afterUnary(Unary operation, int dest, Shape operand, Shape want) {
+        RegularSequences x = Workbenches.withBase(operand.base);
+        operand.putInto(x, 1);
+        x.numbers(3);
+        Checks.due(operation.apply(x, dest, 1), want.size);
+        return x;
     }
 
     private static void dueBinary(Binary operation, Shape a, Shape b, Shape want) {

@@ -81,7 +81,8 @@ public final class ProgramEdgesTest {
 
     @Says(promise = 39, value = "SYNTAX_ERROR if the text is not a program")
     static void runTextThatIsNoProgram() {
-        for (String text : new String[] {"", " ", ";", "0", "0=", "0=n;", "0=n;;1=n", LONGEST.substring(0, 76) + "3=n;"}) {
+        for (String text : new String[] {"", " ", ";", "0", "0=", "0=n;", "0=n;;1=n",
+            LONGEST.substring(0, 76) + "3=n;"}) {
             RegularSequences x = new RegularSequences();
             x.constant(0, 5);
             Checks.due(text, Workbenches.runText(x, text), SYNTAX);
@@ -139,7 +140,8 @@ public final class ProgramEdgesTest {
 
     // ---- promises 40 to 42 ----
 
-    @Says(promise = 40, value = {"Returns the length of the error chain of the latest call of run.", "Returns 0, 1 or 2."})
+    @Says(promise = 40, value = {"Returns the length of the error chain of the latest call of run.",
+        "Returns 0, 1 or 2."})
     static void errorDepthOfEachRun() {
         RegularSequences x = new RegularSequences();
         Checks.due("no run so far", x.errorDepth(), 0);
@@ -245,7 +247,8 @@ public final class ProgramEdgesTest {
         }
     }
 
-    @Says(promise = 44, value = {"NOTHING_SAVED if there is none.", "Returns the number of saved states after the call"})
+    @Says(promise = 44, value = {"NOTHING_SAVED if there is none.",
+        "Returns the number of saved states after the call"})
     static void restoreWithNothingSaved() {
         Refused.dueIn(() -> {
             RegularSequences x = Workbenches.withBase(4);

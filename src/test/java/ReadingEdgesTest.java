@@ -119,7 +119,8 @@ public final class ReadingEdgesTest {
     private static void dueAtNoIndex(Question question) {
         for (int size : new int[] {0, 1, 2, 7, 8}) {
             for (int bad : Edges.outside(0, size - 1)) {
-                Refused.dueIn(() -> Edges.sized(2, size), "index " + bad + " of " + size, x -> question.ask(x, 0, bad), BAD);
+                Refused.dueIn(() -> Edges.sized(2, size), "index " + bad + " of " + size,
+                        x -> question.ask(x, 0, bad), BAD);
             }
         }
     }
@@ -131,7 +132,8 @@ public final class ReadingEdgesTest {
         dueOfFirstAndLastSlot(RegularSequences::row, 0, 10, 40);
     }
 
-    @Says(promise = 9, value = {"Returns one entry of the row vector.", "- `i`: the index of the entry", "Returns the entry"})
+    @Says(promise = 9, value = {"Returns one entry of the row vector.",
+        "- `i`: the index of the entry", "Returns the entry"})
     static void rowAtFirstAndLastIndex() {
         dueAtFirstAndLastIndex(RegularSequences::row);
     }
@@ -160,7 +162,8 @@ public final class ReadingEdgesTest {
         Checks.due(x.column(3, 0), 6);
     }
 
-    @Says(promise = 10, value = {"Returns one entry of the column vector.", "- `i`: the index of the entry", "Returns the entry"})
+    @Says(promise = 10, value = {"Returns one entry of the column vector.",
+        "- `i`: the index of the entry", "Returns the entry"})
     static void columnAtFirstAndLastIndex() {
         dueAtFirstAndLastIndex(RegularSequences::column);
     }
@@ -192,7 +195,8 @@ public final class ReadingEdgesTest {
         Checks.due(x.entry(1, 1, 0, 0), 1);
     }
 
-    @Says(promise = 11, value = {"Returns one entry of the matrix of a digit.", "- `digit`: the digit", "Returns the entry"})
+    @Says(promise = 11, value = {"Returns one entry of the matrix of a digit.",
+        "- `digit`: the digit", "Returns the entry"})
     static void entryOfFirstAndLastDigit() {
         for (int base = 2; base <= 4; base++) {
             RegularSequences x = Workbenches.withBase(base);

@@ -78,10 +78,8 @@ public final class SavingTest {
             RegularSequences x = Workbenches.withBase(base);
             Shape[] shapes = new Shape[4];
             for (int slot = 0; slot < 4; slot++) {
-                shapes[slot] = Shape.scattered(base, slot == 3 ? 8 : slot + 1, 100 + slot, 10006);
-                if (base == 4 && slot == 3) {
-                    shapes[slot] = Shape.scattered(base, 3, 5, 10006);
-                }
+                int size = slot < 3 ? slot + 1 : new int[] {8, 6, 4}[base - 2];
+                shapes[slot] = Shape.scattered(base, size, 100 + slot, 10006);
                 shapes[slot].putInto(x, slot);
             }
             Checks.due(x.save(), 1);

@@ -17,7 +17,7 @@ public final class SentencesTest {
 
     private static final Class<?>[] TESTS = {
         BuildingEdgesTest.class, ReadingEdgesTest.class, OperationEdgesTest.class, CreationEdgesTest.class,
-        QuestionEdgesTest.class, ProgramEdgesTest.class, DescriptionEdgesTest.class};
+        QuestionEdgesTest.class, ProgramEdgesTest.class, TextEdgesTest.class, DescriptionEdgesTest.class};
 
     private static final Pattern EDGE = Pattern.compile("\\d+ to \\d+|0 to b|at most|at least|(?i:empty|empties)|full"
             + "|out of range|valid|checked|negative|exceed|initial|overflow|already|[Nn]o such|there is none"

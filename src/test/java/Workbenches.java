@@ -12,16 +12,29 @@ final class Workbenches {
         return x;
     }
 
-    /** Fills a slot; matrices is indexed by digit, row and column. */
+    /**
+     * Fills a slot; matrices is indexed by digit, row and column. What is 0 after define is not set,
+     * for an object is good for 512 calls only.
+     */
     static void build(RegularSequences x, int slot, int[] row, int[][][] matrices, int[] column) {
         x.define(slot, row.length);
         for (int i = 0; i < row.length; i++) {
-            x.setRow(slot, i, row[i]);
-            x.setColumn(slot, i, column[i]);
+            if (row[i] != 0) {
+                x.setRow(slot, i, row[i]);
+            }
+            if (column[i] != 0) {
+                x.setColumn(slot, i, column[i]);
+            }
             for (int digit = 0; digit < matrices.length; digit++) {
-                for (int j = 0; j < row.length; j++) {
-                    x.setEntry(slot, digit, i, j, matrices[digit][i][j]);
-                }
+                buildRow(x, slot, digit, i, matrices[digit][i]);
+            }
+        }
+    }
+
+    private static void buildRow(RegularSequences x, int slot, int digit, int i, int[] entries) {
+        for (int j = 0; j < entries.length; j++) {
+            if (entries[j] != 0) {
+                x.setEntry(slot, digit, i, j, entries[j]);
             }
         }
     }
