@@ -530,6 +530,21 @@ public final class OperationEdgesTest {
         Checks.due(x.dimension(1), 0);
     }
 
+    @Says(promise = 25, value = RESULT)
+    static void minimizeAfterTheLargest() {
+        for (int base = 2; base <= 4; base++) {
+            RegularSequences x = Edges.sized(base, 8);
+            x.numbers(1);
+            Checks.due(x.minimize(2, 0), Shape.random(base, 8, 4711).minimized().size);
+            Checks.due(x.minimize(2, 1), 2);
+            Shape.numbers(base).minimized().dueIn(x, 2);
+            x.define(0, 0);
+            Checks.due(x.minimize(2, 0), 0);
+            Checks.due(x.minimize(2, 1), 2);
+            Shape.numbers(base).minimized().dueIn(x, 2);
+        }
+    }
+
     @Says(promise = 25, value = NO_SLOT_OF_TWO)
     static void minimizeOfNoSlot() {
         dueOfNoSlot(RegularSequences::minimize);

@@ -130,6 +130,25 @@ public final class QuestionEdgesTest {
         Checks.due("three digits 1, length 1", chain(4).hankelRank(0, 1), 0);
     }
 
+    @Says(promise = 31, value = "Returns the rank")
+    static void hankelRankOfEachSizeAfterTheLargest() {
+        for (int base = 2; base <= 4; base++) {
+            RegularSequences x = Workbenches.withBase(base);
+            Shape largest = Shape.scattered(base, 8, 310, 10006);
+            largest.putInto(x, 0);
+            Checks.due("8", x.hankelRank(0, 3), 8);
+            for (int size = 7; size >= 0; size--) {
+                x.define(1, size);
+                for (int i = 0; i < size; i++) {
+                    x.setRow(1, i, 1);
+                    x.setColumn(1, i, i == 0 ? 1 : 0);
+                }
+                Checks.due("the value is 0 behind the empty string", x.hankelRank(1, 3), size == 0 ? 0 : 1);
+                Checks.due("8 again", x.hankelRank(0, 3), 8);
+            }
+        }
+    }
+
     private static final int[] MAX_LENGTHS = {0, 3, -1, 4, Integer.MIN_VALUE, Integer.MAX_VALUE};
 
     @Says(promise = 31, value = "BAD_ARGUMENT if maxLength is out of range.")
