@@ -162,6 +162,7 @@ public final class BuildingTest {
         }
     }
 
+    @Says(promise = 5, value = "Sets one entry of the row vector.")
     private static void promise5SetRow() {
         RegularSequences x = new RegularSequences();
         Checks.due(x.setRow(0, 0, 1), EMPTY);
@@ -192,6 +193,7 @@ public final class BuildingTest {
         }
     }
 
+    @Says(promise = 6, value = "Sets one entry of the column vector.")
     private static void promise6SetColumn() {
         RegularSequences x = new RegularSequences();
         Checks.due(x.setColumn(3, 0, 1), EMPTY);
@@ -222,6 +224,7 @@ public final class BuildingTest {
         }
     }
 
+    @Says(promise = 7, value = "Sets one entry of the matrix of a digit.")
     private static void promise7SetEntry() {
         RegularSequences x = new RegularSequences();
         Checks.due(x.setEntry(1, 0, 0, 0, 1), EMPTY);
@@ -279,6 +282,7 @@ public final class BuildingTest {
         }
     }
 
+    @Says(promise = 8, value = "Returns the dimension of a representation.")
     private static void promise8Dimension() {
         RegularSequences x = new RegularSequences();
         for (int slot = 0; slot < 4; slot++) {

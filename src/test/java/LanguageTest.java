@@ -11,27 +11,11 @@ import java.util.TreeSet;
 import java.util.regex.Matcher;
 import java.util.regex.Pattern;
 
-/** The document's face, and those rules of LANGUAGE.md that can be seen from outside or in the text. */
+/** Those rules of LANGUAGE.md that can be seen from outside or in the text. */
 public final class LanguageTest {
     private static final Path SOURCE = Path.of("src/main/java/RegularSequences.java");
 
-    private static final String[] FACE = {
-        "NO_SUCH_SLOT", "EMPTY_SLOT", "BAD_ARGUMENT", "DIMENSION_LIMIT", "BUFFER_FULL", "SYNTAX_ERROR",
-        "PROGRAM_ERROR", "NOTHING_SAVED", "NONE",
-        "int setBase(int)", "int define(int,int)", "int clear(int)", "int setRow(int,int,int)",
-        "int setColumn(int,int,int)", "int setEntry(int,int,int,int,int)", "int dimension(int)", "int row(int,int)",
-        "int column(int,int)", "int entry(int,int,int,int)", "int value(int,long)", "int paddedValue(int,long,int)",
-        "int sumOfLength(int,int)", "int countZeros(int,int)", "int firstZero(int)", "int copy(int,int)",
-        "int add(int,int,int)", "int subtract(int,int,int)", "int multiply(int,int,int)", "int scale(int,int,int)",
-        "int trailingSection(int,int,int)", "int leadingSection(int,int,int)", "int reverse(int,int)",
-        "int minimize(int,int)", "int constant(int,int)", "int digitCount(int,int)", "int numbers(int)",
-        "int randomize(int,int,int)", "int minimalDimension(int)", "int hankelRank(int,int)", "int areEqual(int,int)",
-        "int firstDifference(int,int,int)", "int ignoresLeadingZeros(int)", "int observe(long,int)",
-        "int forgetObservations()", "int firstMismatch(int)", "int append(int)", "int run()", "int errorDepth()",
-        "int errorCode(int)", "int errorPosition(int)", "int save()", "int restore()"};
-
     public static void main(String[] args) throws Exception {
-        face();
         classesInside();
         namesOfPrivateMethods();
         String code = withoutCommentsAndTexts(Files.readString(SOURCE));
@@ -43,37 +27,6 @@ public final class LanguageTest {
 
     private static void must(String what, boolean holds) {
         Checks.due(what, holds ? 1 : 0, 1);
-    }
-
-    private static void face() {
-        Class<?> face = RegularSequences.class;
-        must("public and final", face.getModifiers() == (Modifier.PUBLIC | Modifier.FINAL));
-        Set<String> found = new TreeSet<>();
-        for (Field field : face.getDeclaredFields()) {
-            if (!Modifier.isPrivate(field.getModifiers())) {
-                int constant = Modifier.PUBLIC | Modifier.STATIC | Modifier.FINAL;
-                must(field.getName(), field.getModifiers() == constant && field.getType() == int.class);
-                found.add(field.getName());
-            }
-        }
-        for (Method method : face.getDeclaredMethods()) {
-            if (!Modifier.isPrivate(method.getModifiers())) {
-                must(method.getName(), method.getModifiers() == Modifier.PUBLIC);
-                found.add(signature(method));
-            }
-        }
-        Set<String> due = new TreeSet<>(List.of(FACE));
-        must("the face is " + found, found.equals(due));
-        must("one constructor", face.getDeclaredConstructors().length == 1);
-        must("without arguments", face.getConstructors()[0].getParameterCount() == 0);
-    }
-
-    private static String signature(Method method) {
-        List<String> types = new ArrayList<>();
-        for (Class<?> type : method.getParameterTypes()) {
-            types.add(type.getName());
-        }
-        return method.getReturnType().getName() + " " + method.getName() + "(" + String.join(",", types) + ")";
     }
 
     private static List<Class<?>> all() {

@@ -132,6 +132,9 @@ public final class OperationsTest {
         }
     }
 
+    @Says(promise = 18, value = "The row vector of the result is that of a followed by that of b, its matrices are "
+            + "block diagonal with the matrices of a first, and its column vector is that of a "
+            + "followed by that of b.")
     private static void promise18AddByHand() {
         RegularSequences x = new RegularSequences();
         TWO.putInto(x, 0);
@@ -146,6 +149,8 @@ public final class OperationsTest {
                 new int[] {1, 9976, 9970});
     }
 
+    @Says(promise = 19, value = "The result is built like the sum, but each entry of the column vector of b is "
+            + "replaced by its negative modulo 10007.")
     private static void promise19Subtract() {
         dueBinary(RegularSequences::subtract, TWO, THREE, Shape.difference(TWO, THREE));
         dueBinary(RegularSequences::subtract, THREE, TWO, Shape.difference(THREE, TWO));
@@ -181,6 +186,9 @@ public final class OperationsTest {
         }
     }
 
+    @Says(promise = 20, value = "The result has the dimension of a times the dimension of b; index i * (dimension of "
+            + "b) + j of the result belongs to index i of a and index j of b, and each entry of "
+            + "the result is the product of the two corresponding entries.")
     private static void promise20MultiplyByHand() {
         RegularSequences x = new RegularSequences();
         TWO.putInto(x, 0);
@@ -253,6 +261,7 @@ public final class OperationsTest {
         }
     }
 
+    @Says(promise = 21, value = "Stores a multiple of a sequence: each entry of the row vector is multiplied by c.")
     private static void promise21Scale() {
         for (int c : new int[] {0, 1, 2, 5003, 10006}) {
             dueUnary((x, dest, a) -> x.scale(dest, a, c), TWO, TWO.scaled(c));
@@ -275,6 +284,7 @@ public final class OperationsTest {
         Workbenches.dueSlot(x, 0, new int[] {10005, 10004}, Workbenches.MATRICES_TWO, Workbenches.COLUMN_TWO);
     }
 
+    @Says(promise = 22, value = "The column vector is replaced by the matrix of the digit times the column vector.")
     private static void promise22TrailingSection() {
         RegularSequences x = new RegularSequences();
         TWO.putInto(x, 0);
@@ -295,6 +305,7 @@ public final class OperationsTest {
         dueUnary((y, dest, b) -> y.trailingSection(dest, b, 1), new Shape(2, 0), new Shape(2, 0));
     }
 
+    @Says(promise = 23, value = "The row vector is replaced by the row vector times the matrix of the digit.")
     private static void promise23LeadingSection() {
         RegularSequences x = new RegularSequences();
         TWO.putInto(x, 0);
@@ -330,6 +341,7 @@ public final class OperationsTest {
         }
     }
 
+    @Says(promise = 24, value = "The row and column vectors are exchanged and every matrix is transposed.")
     private static void promise24Reverse() {
         RegularSequences x = new RegularSequences();
         TWO.putInto(x, 0);
@@ -344,6 +356,8 @@ public final class OperationsTest {
         }
     }
 
+    @Says(promise = 25, value = "Stores the minimized form of a representation, as described in the section on "
+            + "reduction.")
     private static void promise25Minimize() {
         dueUnary(RegularSequences::minimize, TWO, TWO.minimized());
         dueUnary(RegularSequences::minimize, THREE, THREE.minimized());
@@ -436,6 +450,7 @@ public final class OperationsTest {
         }
     }
 
+    @Says(promise = 26, value = "dimension 1, row vector (c), every matrix (1), column vector (1).")
     private static void promise26Constant() {
         for (int base = 2; base <= 4; base++) {
             RegularSequences x = Workbenches.withBase(base);
@@ -460,6 +475,8 @@ public final class OperationsTest {
         }
     }
 
+    @Says(promise = 27, value = "dimension 2, row vector (1, 0), column vector (0, 1); the matrix of the counted "
+            + "digit has the rows (1, 1) and (0, 1), and every other matrix is the identity matrix.")
     private static void promise27DigitCount() {
         for (int base = 2; base <= 4; base++) {
             RegularSequences x = Workbenches.withBase(base);
@@ -484,6 +501,8 @@ public final class OperationsTest {
                 new int[] {0, 1});
     }
 
+    @Says(promise = 28, value = "dimension 2, row vector (0, 1), column vector (1, 0); the matrix of a digit d has "
+            + "the rows (b, 0) and (d, 1).")
     private static void promise28Numbers() {
         for (int base = 2; base <= 4; base++) {
             RegularSequences x = Workbenches.withBase(base);
@@ -502,6 +521,8 @@ public final class OperationsTest {
                 new int[][][] {{{3, 0}, {0, 1}}, {{3, 0}, {1, 1}}, {{3, 0}, {2, 1}}}, new int[] {1, 0});
     }
 
+    @Says(promise = 29, value = "To draw an entry, the state, an int, is replaced by state * 1103515245 + 12345 with "
+            + "int overflow, and the entry is ((state >>> 16) % 3).")
     private static void promise29Randomize() {
         for (int base = 2; base <= 4; base++) {
             for (int dimension = 0; dimension <= 8; dimension++) {

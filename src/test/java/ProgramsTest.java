@@ -14,6 +14,7 @@ public final class ProgramsTest {
 
     public static void main(String[] args) {
         promise38Append();
+        promise38AppendBehindTheRest();
         promise38AppendToFullBuffer();
         promise39EachExpression();
         promise39Constants();
@@ -49,6 +50,20 @@ public final class ProgramsTest {
         }
     }
 
+    @Says(promise = 38, value = "Appends one character to the buffer.")
+    private static void promise38AppendBehindTheRest() {
+        RegularSequences x = new RegularSequences();
+        for (char ch : "3=k1234;0=c1".toCharArray()) {
+            x.append(ch);
+            Checks.due("no character", x.append(10), BAD);
+        }
+        Checks.due(x.run(), 2);
+        Shape.constant(2, 1234).dueIn(x, 3);
+        ONES.dueIn(x, 0);
+        Checks.due("the same characters in another order", Workbenches.runText(x, "3k=1234;0=c1"), SYNTAX);
+        Checks.due(x.errorPosition(0), 1);
+    }
+
     private static void promise38AppendToFullBuffer() {
         RegularSequences x = new RegularSequences();
         for (int k = 1; k <= 80; k++) {
@@ -63,6 +78,12 @@ public final class ProgramsTest {
         Checks.due(x.append('0'), 1);
     }
 
+    @Says(promise = 0, value = "An expression is one of: A (one decimal digit: copy of slot A); A+B, A-B or A*B "
+            + "(sum, difference or product of slots A and B); mA (slot A minimized); rA (slot A "
+            + "reversed); tAd or lAd (trailing or leading section of slot A by the digit d, one "
+            + "decimal digit); kN (the constant sequence with value N, one to five decimal "
+            + "digits); cd (the digit count sequence of the digit d, one decimal digit); n (the "
+            + "number sequence).")
     private static void promise39EachExpression() {
         dueResult("3=1", ONES);
         dueResult("3=2", Shape.of(Workbenches.ROW_THREE, Workbenches.MATRICES_THREE, Workbenches.COLUMN_THREE));
@@ -132,6 +153,7 @@ public final class ProgramsTest {
         Checks.due(x.value(3, 1), 10000);
     }
 
+    @Says(promise = 0, value = "Statements are executed in order.")
     private static void promise39StatementsInOrder() {
         RegularSequences x = new RegularSequences();
         Checks.due(Workbenches.runText(x, "0=n;1=c1;2=0+1;2=2*1;3=m2;0=1-1"), 6);

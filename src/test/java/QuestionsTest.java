@@ -83,6 +83,8 @@ public final class QuestionsTest {
         }
     }
 
+    @Says(promise = 31, value = "Its rows and its columns are indexed by all digit strings of length at most "
+            + "maxLength, and its entry at row u and column v is the value on u followed by v.")
     private static void promise31HankelRank() {
         for (int base = 2; base <= 4; base++) {
             for (Shape shape : shapes(base)) {
@@ -273,6 +275,8 @@ public final class QuestionsTest {
         Checks.due(x.firstDifference(2, 0, 1), EMPTY);
     }
 
+    @Says(promise = 34, value = "Returns whether leading zeros never change the value: whether the leading section "
+            + "by the digit 0 is equal, as a sequence, to the sequence itself.")
     private static void promise34IgnoresLeadingZeros() {
         for (int base = 2; base <= 4; base++) {
             for (Shape shape : shapes(base)) {
@@ -362,6 +366,8 @@ public final class QuestionsTest {
         Checks.due(x.firstMismatch(0), 1);
     }
 
+    @Says(promise = 35, value = "Adds an observation: the number n is expected to have the value v; earlier ones for "
+            + "the same n stay.")
     private static void promise37FirstMismatch() {
         RegularSequences x = new RegularSequences();
         x.numbers(0);

@@ -49,8 +49,8 @@ public final class TextEdgesTest {
         }
     }
 
-    @Says(promise = 0, value = "It consists of one or more statements, "
-            + "with a semicolon between two statements and no other separators.")
+    @Says(promise = 0, value = "A program is a text in the buffer. "
+            + "It consists of one or more statements, with a semicolon between two statements and no other separators.")
     static void statementsAndSeparators() {
         dueSyntaxError("", 0);
         dueSyntaxError(";", 0);
